@@ -54,9 +54,10 @@ public final class MountainFile {
     private boolean isKept;
 
     public MountainFile() {
-        here = new Land();
+        Land land = new Land();
+        here = land;
         kept = new Land();
-        foresight = new Foresight(here);
+        foresight = new Foresight(land);
         tape = new Tape();
         sheets = new Sheet[SHEETS];
         for (int s = 0; s < SHEETS; s++) {
