@@ -807,14 +807,13 @@ public final class MountainFile {
             int shut = shutCells();
             int taken = takenCells();
             for (int i = 0; i < ranges; i++) {
-                taken = goStride(turns[i], shut, taken);
+                taken = goStride(turns[i], strideOf(turns[i]), shut, taken);
             }
             season++;
         }
 
         /** Answers the set of cells that are taken when the range has gone. */
-        private int goStride(int range, int shut, int taken) {
-            int stride = strideOf(range);
+        private int goStride(int range, int stride, int shut, int taken) {
             int at = cells[range];
             int others = taken & ~(1 << at);
             int blocked = shut | others;
@@ -956,7 +955,8 @@ public final class MountainFile {
         }
 
         private int standing() {
-            after(LONG_VIEW);
+            trial.becomes(here);
+            trial.goSeasons(LONG_VIEW);
             int standing = 0;
             for (int r = 0; r < here.ranges; r++) {
                 if (trial.steps[r] == here.steps[r]) {
@@ -1162,8 +1162,7 @@ public final class MountainFile {
         private static final int NUMBER = 2;
         private static final int SIGN = 3;
         private static final int OTHER = 4;
-        // Any number above 999 may not be, so none needs to grow further.
-        private static final int TOO_MUCH = 1000;
+        private static final int MOST_NUMBER = 999;
 
         private final int[] bytes = new int[MOST_BYTES];
         private int size;
@@ -1349,41 +1348,37 @@ public final class MountainFile {
             while (from < size && bytes[from] == ' ') {
                 from++;
             }
-            behind = from;
-            number = 0;
-            if (from >= size) {
-                sort = END;
-            } else if (isLetter(bytes[from])) {
-                sort = WORD;
-                passLetters();
-            } else if (isDigit(bytes[from])) {
-                sort = NUMBER;
-                passDigits();
-            } else {
-                sort = bytes[from] == ';' ? SIGN : OTHER;
-                behind++;
+            sort = sortAt(from);
+            behind = Math.min(from + 1, size);
+            if (sort == WORD || sort == NUMBER) {
+                while (behind < size && sortAt(behind) == sort) {
+                    behind++;
+                }
             }
+            number = sort == NUMBER ? numberAtHand() : 0;
         }
 
-        private void passLetters() {
-            while (behind < size && isLetter(bytes[behind])) {
-                behind++;
+        private int sortAt(int place) {
+            if (place >= size) {
+                return END;
             }
-        }
-
-        private void passDigits() {
-            while (behind < size && isDigit(bytes[behind])) {
-                number = Math.min(TOO_MUCH, 10 * number + bytes[behind] - '0');
-                behind++;
+            int sign = bytes[place];
+            if (sign >= 'a' && sign <= 'z') {
+                return WORD;
             }
+            if (sign >= '0' && sign <= '9') {
+                return NUMBER;
+            }
+            return sign == ';' ? SIGN : OTHER;
         }
 
-        private static boolean isLetter(int sign) {
-            return sign >= 'a' && sign <= 'z';
-        }
-
-        private static boolean isDigit(int sign) {
-            return sign >= '0' && sign <= '9';
+        /** Above 999 it may not be, however much it is: so it grows no further. */
+        private int numberAtHand() {
+            int told = 0;
+            for (int i = from; i < behind && told <= MOST_NUMBER; i++) {
+                told = 10 * told + bytes[i] - '0';
+            }
+            return told;
         }
     }
 

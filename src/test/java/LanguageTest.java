@@ -7,9 +7,10 @@ import java.nio.charset.StandardCharsets;
 import java.nio.file.Files;
 import java.nio.file.Path;
 import java.util.ArrayList;
-import java.util.Arrays;
 import java.util.List;
+import java.util.Map;
 import java.util.Set;
+import java.util.TreeMap;
 import java.util.TreeSet;
 import java.util.regex.Matcher;
 import java.util.regex.Pattern;
@@ -18,6 +19,8 @@ import java.util.regex.Pattern;
 public final class LanguageTest {
     private static final Path SOURCE = Path.of("src/main/java/MountainFile.java");
     private static final Path DOCUMENT = Path.of("../shared/DOC.md");
+    private static final Pattern METHOD = Pattern.compile(
+        "(?ms)^( {4}| {8})(?:public|private) [^;={}]*?(\\w+)\\([^;={}]*\\) \\{\n(.*?)^\\1\\}\n");
     private static final Check check = new Check();
 
     public static void main(String[] args) throws IOException {
@@ -29,8 +32,9 @@ public final class LanguageTest {
         rule2Nested(classes);
         rules5And11Fields(classes);
         rule11Methods(classes, source);
+        rules8And11Depth(source);
         rules4And6Words(source);
-        rule7Library(source);
+        rule4Library(source);
         check.end();
     }
 
@@ -110,7 +114,7 @@ public final class LanguageTest {
                 check.holds(m + " takes at most seven", m.getParameterCount() <= 7);
             }
         }
-        Matcher method = Pattern.compile("(?ms)^( {4}| {8})(?:public|private) [^;={}]*\\) \\{\n.*?^\\1\\}\n").matcher(source);
+        Matcher method = METHOD.matcher(source);
         int methods = 0;
         while (method.find()) {
             methods++;
@@ -118,6 +122,33 @@ public final class LanguageTest {
             check.holds("at most sixty lines: " + method.group().lines().findFirst().orElse(""), lines <= 60);
         }
         check.holds("methods were found: " + methods, methods >= 43);
+    }
+
+    /** No two methods bear one name, so a name in a body tells what is called. */
+    private static void rules8And11Depth(String source) {
+        Map<String, String> bodies = new TreeMap<>();
+        Matcher method = METHOD.matcher(withoutCommentsAndTexts(source));
+        while (method.find()) {
+            check.holds(method.group(2) + " is the only one", bodies.put(method.group(2), method.group(3)) == null);
+        }
+        int deepest = 0;
+        for (String name : bodies.keySet()) {
+            int depth = depth(name, bodies, 0);
+            deepest = Math.max(deepest, depth);
+            check.holds(name + " goes " + depth + " deep", depth <= 8);
+        }
+        check.holds("calls were found, " + deepest + " deep", deepest >= 4);
+    }
+
+    private static int depth(String name, Map<String, String> bodies, int above) {
+        int deepest = 0;
+        Matcher call = Pattern.compile("(\\w+)\\(").matcher(bodies.get(name));
+        // A recursion would go on for ever: 20 is beyond all that may be.
+        while (above < 20 && call.find()) {
+            boolean isOwn = bodies.containsKey(call.group(1));
+            deepest = Math.max(deepest, isOwn ? depth(call.group(1), bodies, above + 1) : 0);
+        }
+        return 1 + deepest;
     }
 
     private static void rules4And6Words(String source) {
@@ -133,7 +164,7 @@ public final class LanguageTest {
     }
 
     /** What is called by the name of a library's class is one of these alone. */
-    private static void rule7Library(String source) {
+    private static void rule4Library(String source) {
         Set<String> allowed = Set.of("System.arraycopy", "Math.max", "Math.min", "Integer.bitCount");
         Matcher call = Pattern.compile("\\b([A-Z]\\w*\\.[a-z]\\w*)\\(").matcher(withoutCommentsAndTexts(source));
         Set<String> calls = new TreeSet<>();
@@ -144,10 +175,9 @@ public final class LanguageTest {
     }
 
     private static String withoutCommentsAndTexts(String source) {
-        return String.join("\n", Arrays.asList(source
+        return source
             .replaceAll("(?s)/\\*.*?\\*/", " ")
             .replaceAll("//[^\n]*", " ")
-            .replaceAll("\"[^\"\n]*\"", "\"\"")
-            .split("\n")));
+            .replaceAll("\"[^\"\n]*\"", "\"\"");
     }
 }

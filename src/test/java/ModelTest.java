@@ -63,18 +63,30 @@ public final class ModelTest {
         return same;
     }
 
-    /** Most runs would stay empty by chance alone. */
+    /** Most runs would stay empty, or be full and stand still, by chance alone. */
     private void furnish() throws ReflectiveOperationException {
-        int ranges = chance.nextInt(9);
+        for (int r = 7; r >= 0; r--) {
+            if (chance.nextInt(3) == 0) {
+                call("level", r);
+            }
+        }
+        int ranges = chance.nextInt(6);
         for (int i = 0; i < ranges; i++) {
             call("range", chance.nextInt(6), chance.nextInt(24));
+        }
+        if (chance.nextBoolean()) {
+            for (int c = 0; c < 24; c++) {
+                call("pass", c, 0, 0);
+            }
         }
         int passes = chance.nextInt(5);
         for (int i = 0; i < passes; i++) {
             int period = 2 + chance.nextInt(8);
-            call("pass", chance.nextInt(24), period, chance.nextInt(3) == 0 ? 0 : chance.nextInt(period + 1));
+            call("pass", chance.nextInt(24), period, chance.nextInt(6) == 0 ? 0 : chance.nextInt(period) + 1);
         }
-        call("village", chance.nextInt(24));
+        if (chance.nextInt(6) == 0) {
+            call("village", chance.nextInt(24));
+        }
         call("order", chance.nextInt(4), chance.nextInt(19) - 9);
         call("order", chance.nextInt(4), chance.nextInt(19) - 9);
         call("set", chance.nextInt(8), 2, chance.nextInt(10));

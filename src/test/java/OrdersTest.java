@@ -64,6 +64,8 @@ public final class OrdersTest {
         x.set(1, 2, 0);
         x.set(0, 2, 1);
         check.due("haste of the one behind", x.best(1, 1), 4);
+        x.order(0, 8);
+        check.due("by the most alone", x.best(1, 1), 9);
         check.due("nothing changed", x.order(1, 0), 0);
         check.due("what -1", x.best(-1, 1), Check.BEYOND);
         check.due("what 4", x.best(4, 1), Check.BEYOND);
@@ -94,6 +96,10 @@ public final class OrdersTest {
         check.due("its own is the least", x.start(0, 1), 1);
         check.due("not that of another one", x.start(1, 0), 0);
         check.due("nothing changed", x.of(0, 1), 1);
+        MountainFile y = new MountainFile();
+        y.range(0, 0);
+        y.range(0, 5);
+        check.due("not that of the first one", y.start(1, 0), 1);
         check.due("range -1", x.start(-1, 1), Check.BEYOND);
         check.due("range 2", x.start(2, 1), Check.BEYOND);
         check.due("n -1", x.start(0, -1), Check.BEYOND);
@@ -212,5 +218,14 @@ public final class OrdersTest {
             w.pass(c, 9, 1);
         }
         check.due("the journey is told as from then", w.sets(0, 9), 8);
+        // Found by trying: set out behind 3, it takes 80; else more.
+        int[] periods = {8, 9, 9, 9, 8, 9, 8, 8, 8, 9, 8, 9, 7, 9};
+        MountainFile v = Check.inSeason(125);
+        for (int i = 0; i < periods.length; i++) {
+            v.pass(i + 1, periods[i], 1);
+        }
+        check.due("eighty at best", v.sets(0, 14), 3);
+        v.seasons(3);
+        check.due("eighty from then", v.journey(0, 14), 80);
     }
 }

@@ -89,6 +89,7 @@ public final class RangesTest {
         for (int r = 0; r < 8; r++) {
             y.range(5, r);
             check.due("twin of " + (r + 1), y.of(0, 5), 1 + r);
+            check.due("the last twin of " + (r + 1), y.of(r, 5), 1 + r);
         }
         y.turn(7, 2);
         check.due("a peak is no twin", y.of(0, 5), 7);
@@ -137,6 +138,7 @@ public final class RangesTest {
         check.due("its own cell", x.set(0, 1, 23), 23);
         check.due("cell 0", x.set(0, 1, 0), 23);
         check.due("another one is there", x.set(0, 1, 5), Check.STATE);
+        check.due("the first one is there", x.set(1, 1, 0), Check.STATE);
         check.due("haste", x.set(0, 2, 9), 0);
         check.due("haste again", x.set(0, 2, 0), 9);
         check.due("haste 10", x.set(0, 2, 10), Check.BEYOND);
@@ -150,7 +152,7 @@ public final class RangesTest {
         check.due("cell stays", x.of(0, 1), 0);
         check.due("haste stays", x.of(0, 2), 0);
         check.due("BEYOND counted", x.status(0), 8);
-        check.due("STATE counted", x.status(4), 1);
+        check.due("STATE counted", x.status(4), 2);
     }
 
     private static void promise10Turn() {
@@ -213,5 +215,18 @@ public final class RangesTest {
         check.due("a new one", x.range(0, 10), 0);
         check.due("a new one has gone nowhere", x.of(0, 3), 0);
         check.due("a new one has no haste", x.of(0, 2), 0);
+        MountainFile y = new MountainFile();
+        y.range(0, 0);
+        y.range(0, 1);
+        y.pass(2, 2, 0);
+        y.seasons(3);
+        y.set(0, 1, 12);
+        y.seasons(1);
+        // 0 has waited 3 seasons behind 1, and 1 all 4 before the pass.
+        check.due("level one that waited", y.level(0), 2);
+        check.due("closes up: waits", y.of(0, 4), 4);
+        y.level(0);
+        y.range(0, 0);
+        check.due("a new one has never waited", y.of(0, 4), 0);
     }
 }

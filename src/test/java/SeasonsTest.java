@@ -63,6 +63,13 @@ public final class SeasonsTest {
         check.due("out of the shut pass, up to the next", x.seasons(1), 3);
         check.due("it waits", x.of(0, 4), 1);
         check.due("open again", x.seasons(1), 5);
+        MountainFile z = new MountainFile();
+        z.range(0, 23);
+        z.range(0, 22);
+        z.pass(0, 3, 0);
+        z.pass(23, 3, 0);
+        z.set(1, 1, 20);
+        check.due("the first and the last cell are shut", z.seasons(3), 2);
         MountainFile y = new MountainFile();
         y.range(3, 0);
         check.due("a glacier in four seasons", y.seasons(4), 4);

@@ -19,8 +19,10 @@ public final class SheetsTest {
         check.due("16", x.sheet(3, 16, 1), 1);
         check.due("64", x.sheet(1, 64, 0), 0);
         x.write(0, 39, 5);
+        x.write(0, 0, 6);
         check.due("anew", x.sheet(0, 8, 40), 40);
         check.due("all are 0", x.write(0, 39, 7), 0);
+        check.due("the first is 0", x.write(0, 0, 7), 0);
         check.due("shorter", x.sheet(0, 16, 3), 3);
         check.due("no such number now", x.write(0, 3, 1), Check.BEYOND);
         check.due("longer", x.sheet(0, 64, 40), 40);

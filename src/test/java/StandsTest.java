@@ -108,20 +108,29 @@ public final class StandsTest {
         check.due("NONE counted", x.status(3), 2);
     }
 
-    /**
-     * Levelled, 0 makes a lesser number of the peak behind it: with the weight of
-     * the number the two behind the pass still stand, as both are blocked by it.
-     */
+    /** Those left bear other numbers, but each is held against its own steps. */
     private static void promise22Numbers() {
         MountainFile x = new MountainFile();
-        x.pass(8, 2, 0);
-        x.range(2, 0);
-        x.range(2, 6);
-        x.range(2, 7);
+        x.pass(6, 2, 0);
+        x.pass(12, 2, 0);
+        x.range(2, 20);
+        x.range(0, 3);
+        x.range(0, 7);
         x.seasons(3);
-        x.order(0, -9);
-        // 0 comes up to 5 later on; 1 and 2 have stood for good.
+        // They have gone 3, 2 and 4 cells; 0 goes on, up to the cell behind 1.
         check.due("two stand", x.stands(), 6);
-        check.due("the foremost, by its number now", x.frees(), 2);
+        check.due("0 levelled lets both stand", x.frees(), 1);
+        MountainFile y = new MountainFile();
+        y.pass(8, 9, 1);
+        y.range(2, 7);
+        y.range(2, 6);
+        y.pass(9, 2, 0);
+        y.pass(23, 2, 0);
+        y.range(2, 22);
+        y.seasons(8);
+        y.pass(8, 2, 0);
+        // 0 went to 8 and 1 to 7, each before a shut cell: none is in the way.
+        check.due("three stand", y.stands(), 7);
+        check.due("each lets two stand", y.frees(), 0);
     }
 }

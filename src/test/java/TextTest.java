@@ -72,6 +72,11 @@ public final class TextTest {
         check.due("weight 1", x.order(1, 0), -9);
         check.due("weight 2", x.order(2, 0), 0);
         check.due("weight 3: the latest", x.order(3, 0), 0);
+        x.pass(0, 2, 2);
+        x.pass(23, 2, 2);
+        check.due("the first and the last cell", Check.landOf(x, "free 0;free 23"), 2);
+        check.due("are free", x.count(3), 0);
+        check.due("haste 0", Check.landOf(x, "hill at 12 haste 0"), 1);
         check.due("the tape is empty", x.count(2), 0);
         check.due("season stays", x.now(0), 0);
     }
@@ -82,6 +87,9 @@ public final class TextTest {
         check.due("zeros ahead", new Told("range at 00005 haste 009").answer, 1);
         check.due("a word as long as can be", new Told("rangeat 5").answer, -1);
         check.due("a number as long as can be", new Told("pass 1 21").answer, -1 - 7);
+        check.due("a word with a z", new Told("freez 5").answer, -1);
+        check.due("another first letter", new Told("zree 5").answer, -1);
+        check.due("a letter less", new Told("ree 5").answer, -1);
         check.due("a great letter", new Told("Range at 5").answer, -1);
         check.due("a tab is no blank", new Told("range\tat 5").answer, -1 - 5);
         check.due("a line's end is no blank", new Told("free 5\n").answer, -1 - 6);
@@ -89,6 +97,11 @@ public final class TextTest {
         check.due("a number that wraps round", new Told("free 4294967296").answer, -1 - 5);
         check.due("a sign that is none", new Told("free 5, free 6").answer, -1 - 6);
         check.due("below 0", new Told("order 0 -3").answer, -1 - 8);
+        MountainFile x = new MountainFile();
+        Check.landOf(x, "free 999");
+        check.due("digits of an older text", Check.landOf(x, "free 1"), 1);
+        Check.landOf(x, "free 1;freeze");
+        check.due("letters of an older text", Check.landOf(x, "free 1;free"), -1 - 11);
     }
 
     private static void promise32Faults() {
