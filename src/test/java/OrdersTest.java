@@ -100,6 +100,13 @@ public final class OrdersTest {
         y.range(0, 0);
         y.range(0, 5);
         check.due("not that of the first one", y.start(1, 0), 1);
+        MountainFile z = new MountainFile();
+        z.range(0, 5);
+        z.range(0, 23);
+        for (int c = 1; c < 24; c++) {
+            z.pass(c, 2, 0);
+        }
+        check.due("from nowhere but the taken last cell it could go", z.start(0, 1), 0);
         check.due("range -1", x.start(-1, 1), Check.BEYOND);
         check.due("range 2", x.start(2, 1), Check.BEYOND);
         check.due("n -1", x.start(0, -1), Check.BEYOND);
@@ -151,6 +158,11 @@ public final class OrdersTest {
         z.pass(22, 2, 0);
         // The range goes 2 in place of either peak that goes 1.
         check.due("of several the least", z.swap(1), 2);
+        MountainFile w = new MountainFile();
+        for (int r = 0; r < 8; r++) {
+            w.range(0, 3 * r);
+        }
+        check.due("eight alike", w.swap(40), Check.NONE);
         check.due("n -1", x.swap(-1), Check.BEYOND);
         check.due("n 41", x.swap(41), Check.BEYOND);
         check.due("NONE counted", x.status(3), 3);

@@ -228,5 +228,12 @@ public final class RangesTest {
         y.level(0);
         y.range(0, 0);
         check.due("a new one has never waited", y.of(0, 4), 0);
+        MountainFile z = new MountainFile();
+        for (int r = 0; r < 8; r++) {
+            z.range(0, 2 * r);
+        }
+        check.due("level one of eight", z.level(0), 0);
+        check.due("seven are left", z.count(0), 7);
+        check.due("the last one", z.of(6, 1), 14);
     }
 }
