@@ -1,3 +1,8 @@
+import java.lang.reflect.InvocationTargetException;
+import java.lang.reflect.Method;
+import java.util.Arrays;
+import java.util.Comparator;
+
 /** Counts the answers of one test that are not the ones that are due. */
 final class Check {
     static final int BEYOND = -1000000001;
@@ -8,6 +13,7 @@ final class Check {
     static final int MISSING = -1000000006;
     static final int SIZE = -1000000007;
 
+    private String part = "";
     private int asked;
     private int wrong;
 
@@ -15,7 +21,7 @@ final class Check {
         asked++;
         if (got != want) {
             wrong++;
-            System.out.println(call + " answered " + got + ", due is " + want);
+            System.out.println(part + call + " answered " + got + ", due is " + want);
         }
     }
 
@@ -23,7 +29,34 @@ final class Check {
         asked++;
         if (!so) {
             wrong++;
-            System.out.println("does not hold: " + what);
+            System.out.println(part + "does not hold: " + what);
+        }
+    }
+
+    /**
+     * Runs all methods whose names begin with promise, so that none is written
+     * and then forgotten. One that asks for nothing counts as wrong.
+     */
+    void runPromises(Class<?> test) throws ReflectiveOperationException {
+        Method[] methods = test.getDeclaredMethods();
+        Arrays.sort(methods, Comparator.comparing(Method::getName));
+        for (Method method : methods) {
+            if (method.getName().startsWith("promise")) {
+                part = method.getName() + ": ";
+                int before = asked;
+                runOne(method);
+                holds("it asks for something", asked > before);
+            }
+        }
+        part = "";
+    }
+
+    private void runOne(Method method) throws ReflectiveOperationException {
+        method.setAccessible(true);
+        try {
+            method.invoke(null);
+        } catch (InvocationTargetException thrown) {
+            holds("nothing is thrown: " + thrown.getCause(), false);
         }
     }
 
@@ -52,12 +85,17 @@ final class Check {
     /** A new object in which so many seasons went by. */
     static MountainFile inSeason(int season) {
         MountainFile x = new MountainFile();
-        int left = season;
+        goTo(x, season);
+        return x;
+    }
+
+    /** Seasons go by until it is that one. */
+    static void goTo(MountainFile x, int season) {
+        int left = season - x.now(0);
         while (left > 0) {
             int n = Math.min(80, left);
             x.seasons(n);
             left -= n;
         }
-        return x;
     }
 }
