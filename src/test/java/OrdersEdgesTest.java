@@ -144,6 +144,15 @@ public final class OrdersEdgesTest {
         check.due("the least is free", x.start(7, 0), 0);
     }
 
+    /** Only from the last cell it could go, but another one is there. */
+    private static void promise25NotTheLastCellWhereAnotherOneIs() {
+        MountainFile x = openOnly(0, 0);
+        x.range(2, 23);
+        check.due("all others are alike", x.start(0, 1), 0);
+        x.set(1, 1, 22);
+        check.due("the last is free", x.start(0, 1), 23);
+    }
+
     private static MountainFile rowFromZero() {
         MountainFile x = new MountainFile();
         for (int r = 0; r < 8; r++) {

@@ -227,6 +227,33 @@ public final class StandsEdgesTest {
         check.due("the best", x.frees(), 2);
     }
 
+    /**
+     * Those behind the levelled one bear lesser numbers then, and each is held
+     * against its own steps: by those of its neighbours it would seem to go.
+     */
+    private static void promise22EachByItsOwnSteps() {
+        MountainFile x = Lands.empty();
+        for (int r = 0; r < 8; r++) {
+            x.range(2, 3 * r);
+            x.seasons(1);
+        }
+        // Range r went 8 - r cells and is in 2 r + 8.
+        for (int r = 0; r < 8; r++) {
+            check.due("steps", x.of(r, 3), 8 - r);
+            x.pass(2 * r + 9, 2, 0);
+        }
+        check.due("all stand", x.stands(), 255);
+        check.due("any lets seven stand", x.frees(), 0);
+        x.pass(9, 0, 0);
+        check.due("seven stand", x.stands(), 254);
+        check.due("0 lets seven stand, any other six", x.frees(), 1);
+        for (int r = 7; r > 1; r--) {
+            x.level(r);
+        }
+        check.due("only 1 stands", x.stands(), 2);
+        check.due("0 lets it stand", x.frees(), 1);
+    }
+
     private static void promise22InTheEightiethSeasonOrLater() {
         edges.refused("it goes in the eightieth", () -> glaciers(38), Check.NONE, x -> x.frees());
         edges.asked("it goes in the eighty-first", () -> glaciers(37), 0, x -> x.frees());

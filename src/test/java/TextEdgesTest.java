@@ -229,6 +229,8 @@ public final class TextEdgesTest {
         x.pass(23, 2, 1);
         check.due("the first and the last", Check.landOf(x, "free 0;free 23"), 2);
         check.due("no pass", x.count(3), 0);
+        check.due("period", x.cell(0, 0), 0);
+        check.due("open", x.cell(23, 1), 0);
         check.due("what is none", Check.landOf(x, "free 0"), 1);
         fault("free 24", 5);
         fault("free", 4);
@@ -292,6 +294,8 @@ public final class TextEdgesTest {
     private static void promise32WordsAsLongAsCanBe() {
         for (String kind : KINDS) {
             fault(kind.substring(1) + " at 5", 0);
+            fault("z" + kind.substring(1) + " at 5", 0);
+            fault(kind.substring(0, kind.length() - 1) + "z at 5", 0);
             fault(kind.substring(0, kind.length() - 1) + " at 5", 0);
             fault(kind + "s at 5", 0);
             fault(kind + "at 5", 0);
@@ -305,11 +309,17 @@ public final class TextEdgesTest {
         for (String word : new String[] {"pass", "free", "village", "order"}) {
             fault(word.substring(0, word.length() - 1) + " 1 2 1", 0);
             fault(word + "s 1 2 1", 0);
+            fault("z" + word.substring(1) + " 1 2 1", 0);
+            fault(word.substring(0, word.length() - 1) + "z 1 2 1", 0);
         }
         fault("hill at 5 hast 1", 10);
         fault("hill at 5 hastes 1", 10);
+        fault("hill at 5 waste 1", 10);
+        fault("hill it 5", 5);
+        fault("hill as 5", 5);
         fault("order 1 les 1", 8);
         fault("order 1 lesser 1", 8);
+        fault("order 1 mess 1", 8);
     }
 
     private static void promise32TokensWithoutBlanks() {
