@@ -55,6 +55,21 @@ public final class OrdersEdgesTest {
         edges.refused("one cell", OrdersEdgesTest::standing, Check.NONE, x -> x.haste(0, 1, 40));
     }
 
+    /** Range 0 goes first by any haste up to that of 1, who is right ahead of it. */
+    private static MountainFile behind(int hasteOfOther) {
+        MountainFile x = new MountainFile();
+        x.range(0, 0);
+        x.range(0, 1);
+        x.set(1, 2, hasteOfOther);
+        x.order(1, 1);
+        return x;
+    }
+
+    private static void promise23MoreThanNineIsNoHaste() {
+        edges.asked("more than eight", () -> behind(8), 9, x -> x.haste(0, 1, 1));
+        edges.refused("more than nine", () -> behind(9), Check.NONE, x -> x.haste(0, 1, 1));
+    }
+
     private static MountainFile standing() {
         MountainFile x = new MountainFile();
         x.range(0, 23);
@@ -102,6 +117,22 @@ public final class OrdersEdgesTest {
         edges.asked("from 8 on", () -> manners(7), 8, x -> x.best(1, 1));
         edges.asked("the most alone", () -> manners(8), 9, x -> x.best(1, 1));
         edges.asked("none is enough", () -> manners(9), -9, x -> x.best(1, 1));
+    }
+
+    /** Cell 2 opens in season 9; by a weight of numbers below 0 the hindmost, 1, goes first then, and waits. */
+    private static MountainFile beforeNine(int season) {
+        MountainFile x = Check.inSeason(season);
+        x.range(0, 1);
+        x.range(0, 0);
+        x.pass(2, 9, 1);
+        return x;
+    }
+
+    private static void promise24SoManySeasonsAndNoneMore() {
+        edges.asked("no seasons", () -> beforeNine(9), -9, x -> x.best(0, 0));
+        edges.asked("one", () -> beforeNine(9), 0, x -> x.best(0, 1));
+        edges.asked("four, all shut", () -> beforeNine(5), -9, x -> x.best(0, 4));
+        edges.asked("five", () -> beforeNine(5), 0, x -> x.best(0, 5));
     }
 
     // ---- promise 25: start
@@ -380,5 +411,21 @@ public final class OrdersEdgesTest {
         check.due("behind three", x.sets(0, 14), 3);
         x.seasons(3);
         check.due("eighty", x.journey(0, 14), 80);
+    }
+
+    /** Found by trying: only from season 25 on one comes to cell 12 at all, in eighty. */
+    private static MountainFile twelvePasses(int season) {
+        int[] periods = {9, 9, 9, 9, 9, 8, 8, 8, 9, 9, 9, 8};
+        MountainFile x = Check.inSeason(season);
+        for (int i = 0; i < periods.length; i++) {
+            x.pass(i + 1, periods[i], 1);
+        }
+        return x;
+    }
+
+    private static void promise29AJourneyOfEightyBehindTwenty() {
+        edges.asked("eighty", () -> twelvePasses(25), 80, x -> x.journey(0, 12));
+        edges.asked("behind twenty", () -> twelvePasses(5), 20, x -> x.sets(0, 12));
+        edges.refused("behind twenty-one is too late", () -> twelvePasses(4), Check.NONE, x -> x.sets(0, 12));
     }
 }

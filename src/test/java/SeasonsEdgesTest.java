@@ -427,6 +427,22 @@ public final class SeasonsEdgesTest {
         edges.asked("one stands two on", () -> standing(10), 0, x -> x.lit(0));
     }
 
+    private static void promise17TheSixthVillage() {
+        edges.asked("it alone is lit", () -> sixth(12, 5), 0, x -> x.lit(5));
+        edges.refused("the fifth is never", () -> sixth(12, 5), Check.NONE, x -> x.lit(4));
+        edges.refused("it alone is never lit", () -> sixth(5, 12), Check.NONE, x -> x.lit(5));
+    }
+
+    /** One stands in 12 for good; five villages in one cell, the sixth in another. */
+    private static MountainFile sixth(int cellOfFive, int cellOfSixth) {
+        MountainFile x = standing(cellOfFive);
+        for (int v = 1; v < 5; v++) {
+            x.village(cellOfFive);
+        }
+        x.village(cellOfSixth);
+        return x;
+    }
+
     /** One stands in 12 for good. */
     private static MountainFile standing(int village) {
         MountainFile x = new MountainFile();
@@ -450,6 +466,11 @@ public final class SeasonsEdgesTest {
         edges.asked("of no seasons", SeasonsEdgesTest::litNow, 0, x -> x.sun(0, 0));
         edges.asked("all eighty", () -> standing(13), 80, x -> x.sun(0, 80));
         edges.asked("none of eighty", () -> standing(12), 0, x -> x.sun(0, 80));
+    }
+
+    private static void promise18TheSixthVillage() {
+        edges.asked("all eighty", () -> sixth(12, 5), 80, x -> x.sun(5, 80));
+        edges.asked("none of eighty", () -> sixth(5, 12), 0, x -> x.sun(5, 80));
     }
 
     private static void promise18BehindEach() {

@@ -258,4 +258,19 @@ public final class StandsEdgesTest {
         edges.refused("it goes in the eightieth", () -> glaciers(38), Check.NONE, x -> x.frees());
         edges.asked("it goes in the eighty-first", () -> glaciers(37), 0, x -> x.frees());
     }
+
+    /** The glaciers, and range 5 that stands for good, far from the one that goes last. */
+    private static MountainFile glaciersAndOne(int season) {
+        MountainFile x = glaciers(season);
+        x.range(0, 12);
+        x.pass(13, 2, 0);
+        return x;
+    }
+
+    private static void promise22ThoseLeftGoInTheEightiethSeasonOrLater() {
+        check.due("5 alone stands", glaciersAndOne(38).stands(), 1 << 5);
+        edges.asked("without it none does", () -> glaciersAndOne(38), 5, x -> x.frees());
+        check.due("0 stands, too", glaciersAndOne(37).stands(), 1 << 5 | 1);
+        edges.asked("without either the other one does", () -> glaciersAndOne(37), 0, x -> x.frees());
+    }
 }

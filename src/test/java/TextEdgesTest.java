@@ -384,7 +384,8 @@ public final class TextEdgesTest {
         }
         check.due("a 6th and a 7th", Check.landOf(x, "village 1;village 1"), -1 - 10);
         check.due("none came", x.count(1), 5);
-        check.due("a 6th", Check.landOf(x, "village 1"), 1);
+        check.due("a 6th", Check.landOf(x, "village 21"), 1);
+        check.due("its cell", x.villageOf(5, 0), 21);
         check.due("a 7th", Check.landOf(x, "village 1"), -1);
         check.due("a 7th that ends too early", Check.landOf(x, "free 1; village"), -1 - 8);
         check.due("a 7th nowhere", Check.landOf(x, " village 99"), -1 - 1);
